@@ -497,12 +497,14 @@ public final class MarginTable {
         }
 
         void takeOut(int r, int row, int column, int shift, long inverse) {
-            long pivot = cell[row][column];
-            long factor = cell[r][column];
+            long[] from = cell[r];
+            long[] taken = cell[row];
+            long pivot = taken[column];
+            long factor = from[column];
             for (int k = 0; k <= columnOfQ(); k++) {
-                long high = Whole.crossHigh(pivot, cell[r][k], factor, cell[row][k]);
-                long low = pivot * cell[r][k] - factor * cell[row][k];
-                cell[r][k] = Whole.shiftedLow(high, low, shift) * inverse;
+                long high = Whole.crossHigh(pivot, from[k], factor, taken[k]);
+                long low = pivot * from[k] - factor * taken[k];
+                from[k] = Whole.shiftedLow(high, low, shift) * inverse;
             }
         }
     }
