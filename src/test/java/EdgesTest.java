@@ -630,23 +630,36 @@ public final class EdgesTest {
             new int[] {1, -4, -1}), state);
     }
 
+    /** The largest cells, 41 bits, seen in a search of all fours of places (each in one order) and labels. */
+    private static MarginTable largest(int state) {
+        return inState(with(2, 20, 1, new int[] {-4, -4, 1}, new int[] {-4, 4, 1}, new int[] {4, -4, 1},
+            new int[] {4, 4, 1}), state);
+    }
+
+    private static MarginTable ofFour(int kind, int state) {
+        return kind == 0 ? large(state) : largest(state);
+    }
+
     /** What stands in a row at w says of which rows, as they were laid, it is the sum. */
     private static void rowsStayEquations() {
         says("Row by row: what is told there, times 1, and all others by what stands, are q");
-        int steps = large(DONE).count(4);
-        due("STEPS", steps, 5);
-        for (int made = 0; made <= steps; made++) {
-            MarginTable t = large(LAID);
-            if (made > 0) {
-                t.go(made);
-            }
-            for (int r = 0; r < 8; r++) {
-                isSumOfRows(t, r, "row " + r + " behind " + made + " STEPS");
+        due("STEPS of large ones", large(DONE).count(4), 5);
+        due("STEPS of the largest", largest(DONE).count(4), 5);
+        for (int kind = 0; kind < 2; kind++) {
+            for (int made = 0; made <= 5; made++) {
+                MarginTable t = ofFour(kind, LAID);
+                if (made > 0) {
+                    t.go(made);
+                }
+                for (int r = 0; r < 8; r++) {
+                    String which = "kind " + kind + ", row " + r + " behind " + made + " STEPS";
+                    isSumOfRows(t, ofFour(kind, LAID), r, which);
+                }
             }
         }
     }
 
-    private static void isSumOfRows(MarginTable t, int r, String which) {
+    private static void isSumOfRows(MarginTable t, MarginTable first, int r, String which) {
         BigInteger[] above = new BigInteger[18];
         BigInteger[] below = new BigInteger[18];
         BigInteger common = BigInteger.ONE;
@@ -656,7 +669,6 @@ public final class EdgesTest {
             due(which + ": below above 0", below[column].signum(), 1);
             common = common.multiply(below[column]);
         }
-        MarginTable first = large(LAID);
         for (int column = 8; column < 18; column++) {
             BigInteger sum = BigInteger.ZERO;
             for (int k = 0; k < 8; k++) {
